@@ -721,7 +721,7 @@ public final class StraitFleet {
             if (side == BY_WHIRL) {
                 return digitAt(hour) * whole(ship);
             }
-            return 10 * worstBy(ship, side, hour);
+            return 10 * (side == BY_TEETH ? lostToTeeth(ship) : fare(ship));
         }
 
         int worstBy(int ship, int side, int hour) {

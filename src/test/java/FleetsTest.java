@@ -149,6 +149,13 @@ public final class FleetsTest {
         x.set(6, 1);
         Due.text(x, "AC").done();
         due.is("21: through already", x.captain(0, 0), 1);
+        StraitFleet y = Due.withTide("1");
+        y.set(3, 60);
+        y.set(5, 1);
+        y.ship(0, 6, 0, 0);
+        due.is("21: T 0, W 9 tenths, C below 0", y.captain(0, 0), 1);
+        y.set(5, 0);
+        due.is("21: T and W alike", y.captain(0, 0), 0);
     }
 
     private static void persuaded() {
@@ -181,6 +188,15 @@ public final class FleetsTest {
         due.is("22: C from 61 on", x.persuaded(2, 1), 61);
         Due.text(x, "CC").done();
         due.is("22: through already", x.persuaded(2, 1), 61);
+        // owners: C 0; captains: T 0, C above W as soon as HULL and 6 HEAD are above 600
+        StraitFleet y = Due.withTide("1");
+        y.set(2, 0);
+        y.set(3, 60);
+        y.ship(0, 6, 0, 0);
+        y.set(5, 10);
+        due.is("22: by the most HEAD", y.persuaded(0, 0), 99);
+        y.set(5, 6);
+        due.is("22: not by the most HEAD", y.persuaded(0, 0), NONE);
     }
 
     private static void offers() {

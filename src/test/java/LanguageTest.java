@@ -82,8 +82,8 @@ public final class LanguageTest {
     private static void text(String text) {
         String code = text.replaceAll("(?s)/\\*.*?\\*/", " ").replaceAll("//[^\n]*", " ").replaceAll("'.'", "0");
         String[] words = {
-            "throw", "throws", "try", "catch", "synchronized", "assert", "import", "package", "protected", "while",
-            "var", "Object", "double", "float", "String", "System\\.(?!arraycopy)", "Math\\.\\w+Exact", "hashCode",
+            "throw", "throws", "try", "catch", "synchronized", "assert", "package", "protected", "hashCode",
+            "System\\.(?!arraycopy)", "Math\\.\\w+Exact",
         };
         for (String word : words) {
             due.holds("no " + word, !Pattern.compile("\\b" + word + (word.endsWith(")") ? "" : "\\b")).matcher(code).find());

@@ -130,6 +130,14 @@ public final class LotsTest {
         due.is("31: burnt", x.burnt(), 1);
         due.is("31: twice", x.twice(1), 0);
         due.is("30: again", x.roll(0, 0), 1);
+        x.forget();
+        for (int i = 0; i < 6; i++) {
+            x.roll(0, 4);
+        }
+        x.forget();
+        x.roll(0, 1);
+        due.is("31: burnt by the new one alone", x.burnt(), 8);
+        due.is("31: twice by the new one alone", x.twice(1), 0);
     }
 
     private static void twice() {

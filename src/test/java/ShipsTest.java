@@ -202,6 +202,11 @@ public final class ShipsTest {
         Due.text(x, "?");
         due.is("9: what before fault", x.judge(2), OUTSIDE);
         due.is("9: fault", x.judge(1), NO);
+        Due.text(x, "AT");
+        due.is("9: no such ship", x.judge(1), 1);
+        Due.text(x, "");
+        due.is("9: a season is judged by itself", x.judge(1), NONE);
+        due.is("9: a season is judged by itself", x.judge(0), NONE);
     }
 
     /** Ships A and B are in the harbour, C is through; no other is. */
