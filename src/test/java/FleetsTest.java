@@ -59,6 +59,16 @@ public final class FleetsTest {
         x.ship(1, 10, 6, 50);
         due.is("18: T and C alike", x.bound(0, 0, 1), 0);
         due.is("18: C alone", x.bound(0, 0, 4), 2);
+        x.set(2, 1);
+        x.set(3, 1);
+        for (int ship = 0; ship < 6; ship++) {
+            x.ship(ship, 10, 0, 50 + ship);
+        }
+        due.is("18: all six by C", x.bound(0, 60, -1), 600);
+        due.is("18: all six by C, and no less", x.bound(0, 59, -1), NONE);
+        for (int ship = 0; ship < 6; ship++) {
+            due.is("18: each by C", x.bound(0, 99999, ship), 2);
+        }
     }
 
     private static void lines() {
