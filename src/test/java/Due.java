@@ -3,9 +3,27 @@ final class Due {
     private final String test;
     private int looked = 0;
     private int wrong = 0;
+    private int sentences = 0;
+    private String sentence = "";
+    private int lookedBefore = 0;
 
     Due(String test) {
         this.test = test;
+    }
+
+    /** Begins the test of one sentence of the document: its promise (or Terms) and its words. */
+    void sentence(String of, String words) {
+        endSentence();
+        sentences++;
+        sentence = of + ": " + words;
+        lookedBefore = looked;
+    }
+
+    /** A sentence for which nothing is looked at would seem to hold. */
+    private void endSentence() {
+        if (sentences > 0 && looked == lookedBefore) {
+            is("answers that were looked at", 0, 1);
+        }
     }
 
     void is(String call, long got, long want) {
@@ -13,7 +31,8 @@ final class Due {
         if (got != want) {
             wrong++;
             if (wrong <= 40) {
-                System.out.println(test + ": " + call + " answered " + got + ", due is " + want);
+                String where = sentence.isEmpty() ? test : test + " [" + sentence + "]";
+                System.out.println(where + ": " + call + " answered " + got + ", due is " + want);
             }
         }
     }
@@ -23,7 +42,9 @@ final class Due {
     }
 
     void close() {
-        System.out.println(test + ": " + looked + " answers, " + wrong + " not as due");
+        endSentence();
+        String of = sentences == 0 ? "" : " for " + sentences + " sentences";
+        System.out.println(test + ": " + looked + " answers" + of + ", " + wrong + " not as due");
         if (wrong != 0) {
             System.exit(1);
         }
