@@ -13,6 +13,8 @@ public final class LotsTest {
         burnt();
         years();
         images();
+        imagesAndLaterChanges();
+        imagesAndThePad();
         told();
         due.close();
     }
@@ -248,14 +250,31 @@ public final class LotsTest {
         due.is("35: a full one", x.image(0), 1);
         String full = Snapshot.of(x);
         x.restore(1);
-        String fresh = Snapshot.of(x);
-        due.holds("36: as it was at first", fresh.equals(Snapshot.of(Due.withTide("9"))));
+        due.holds("36: as it was at first", Snapshot.of(x).equals(Snapshot.of(Due.withTide("9"))));
         due.is("36: restored", x.restore(0), 1);
         due.holds("36: as it was when it was full", full.equals(Snapshot.of(x)));
+    }
+
+    private static void imagesAndLaterChanges() {
+        StraitFleet x = Due.withTide("9");
+        x.image(1);
+        fill(x);
+        x.image(0);
+        String full = Snapshot.of(x);
         unfill(x);
-        due.holds("36: what comes later does not change the image", x.restore(0) == 1 && full.equals(Snapshot.of(x)));
-        due.is("36: again", x.restore(1), 1);
-        due.holds("36: the other one", fresh.equals(Snapshot.of(x)));
+        due.is("36: what comes later does not change the image", x.restore(0), 1);
+        due.holds("36: as it was when it was full", full.equals(Snapshot.of(x)));
+        due.is("36: the other one", x.restore(1), 1);
+        due.holds("36: as it was at first", Snapshot.of(x).equals(Snapshot.of(Due.withTide("9"))));
+    }
+
+    private static void imagesAndThePad() {
+        StraitFleet x = Due.withTide("9");
+        fill(x);
+        x.image(0);
+        String full = Snapshot.of(x);
+        unfill(x);
+        x.wipe();
         x.say(65);
         x.image(1);
         x.say(66);
