@@ -183,6 +183,24 @@ public final class FleetEdgesTest {
         lineIs(x, 0, 631, 631, 1115, 575, 1607, 527, 2103, 483, 2601, 441, 3100, 400, 3600, 360);
         x = fleet("0", 999, 999, 999, 999, 999, 999);
         lineIs(x, 0, 0, 0);
+        due.sentence("Promises 18, 19", "each by a SIDE: six ships by the last one");
+        x = fleet("5", 0, 1, 2, 4, 8, 16); // C 500 and 50 each, W 500 and 100 on, T 600 and 60
+        x.set(PAY, 1);
+        x.set(DAYS, 5);
+        x.ship(0, 10, 0, 1);
+        lineIs(x, 0, 3000, 300);
+        boundIs(x, 0, 99999, 3000, C, C, C, C, C, C);
+        boundIs(x, 0, 300, 3000, C, C, C, C, C, C);
+        boundIs(x, 0, 299, NONE, NONE, NONE, NONE, NONE, NONE, NONE);
+        due.sentence("Promise 19", "each by a SIDE: W or C on the line");
+        x = fleet("2", 0, 50, 100); // W 200 and 100, 300 and 150, 400 and 200; C 500 and 50 each
+        x.set(PAY, 1);
+        x.set(DAYS, 5);
+        lineIs(x, 0, 900, 450, 1000, 300, 1200, 200, 1500, 150);
+        boundIs(x, 0, 449, 1000, W, W, C);
+        boundIs(x, 0, 299, 1200, W, C, C);
+        boundIs(x, 0, 199, 1500, C, C, C);
+        due.sentence("Promise 19", "the worst that six ships can be told");
         // T 18900 and 1890 each, W by 9 tenths 17010 and 1890, C 108000 and 10800
         x = fleet("9");
         x.set(TEETH, 9);
@@ -456,6 +474,11 @@ public final class FleetEdgesTest {
             x.offer(offer, 999, 9999);
         }
         insuredIs(x, 840480, 15, 3996);
+        due.sentence("Promise 25", "the WORST by it: all can be lost, if the digit is above 0");
+        x = fleet("1", 0);
+        insuredIs(x, 1000100, 0, 100);
+        x.offer(3, 1, 11);
+        insuredIs(x, 1000099, 8, 90);
         due.sentence("Promise 25", "INSURED of a SHIP that is through, as it is now");
         x = fleet("5", 0);
         Due.text(x, "AT").done();

@@ -220,6 +220,22 @@ public final class LotEdgesTest {
         }
         due.is("a seventh again", x.roll(1, 1), FULL);
         due.is("a new object", new StraitFleet().forget(), 0);
+        due.sentence("Promise 31", "ROLLS that went are not read again");
+        for (int again = 0; again <= 5; again++) {
+            x = withRolls(15, 6, 15, 6, 15, 6, 15, 6, 15, 6, 15, 6);
+            x.forget();
+            for (int i = 0; i < again; i++) {
+                x.roll(0, 0);
+            }
+            due.is("rolls", x.told(13), again);
+            twiceIs(x, 0, 0);
+            due.is("ways", x.burnt(), 1);
+        }
+        x = withRolls(15, 6, 15, 6);
+        x.forget();
+        x.roll(15, 6);
+        twiceIs(x, 0, 0);
+        due.is("ways", x.burnt(), 6);
         due.sentence("Promise 30", "OUTSIDE: the NAMES 0 to 255, how many 0 to 8, no fewer than can be read");
         x = new StraitFleet();
         due.is("-1 names", x.roll(-1, 8), OUTSIDE);
@@ -500,7 +516,7 @@ public final class LotEdgesTest {
         StraitFleet full = new StraitFleet();
         change(full);
         String whole = Snapshot.of(full);
-        for (int thing = 0; thing < 13; thing++) {
+        for (int thing = 0; thing < 19; thing++) {
             StraitFleet x = new StraitFleet();
             change(x);
             x.image(1);
@@ -546,6 +562,12 @@ public final class LotEdgesTest {
             case 9: x.offer(1, 2, 50); break;
             case 10: x.aboard(5, 2); break;
             case 11: x.forget(); x.roll(3, 4); x.roll(6, 3); break;
+            case 12: x.forget(); x.roll(5, 4); x.roll(6, 2); break;
+            case 13: x.offer(1, 1, 51); break;
+            case 14: x.noOffers(); break;
+            case 15: x.ashore(2); break;
+            case 16: x.roll(0, 0); break;
+            case 17: x.set(TEETH, 9); break;
             default: x.set(SEED, 5);
         }
     }

@@ -531,6 +531,16 @@ public final class ShipEdgesTest {
         judgedIs(x, "BTAW.", NONE, NONE);
         judgedIs(x, ".".repeat(60), NONE, NONE);
         judgedIs(new StraitFleet(), "", NONE, NONE);
+        due.sentence("Promise 9", "each SEASON by itself: nothing is left of one that could not be");
+        x = withShips(0);
+        judgedIs(x, "..ATAT", 3, 2);
+        judgedIs(x, "", NONE, NONE);
+        due.is("behind none", x.behind(0, 0), 0);
+        judgedIs(x, "BT", 0, 1);
+        judgedIs(x, "AT", NONE, NONE);
+        judgedIs(x, "BT", 0, 1);
+        x.wipe();
+        due.is("done of none", x.done(), 0);
         due.sentence("Promise 9", "it is only judged: nothing is done");
         x = Due.withTide("9");
         x.ship(0, 9, 1, 5);
