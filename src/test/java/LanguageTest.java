@@ -48,8 +48,13 @@ public final class LanguageTest {
             }
         }
         due.holds("the methods are those of the document", open.equals(new TreeSet<>(Set.of(FACE))));
+        for (Class<?> c : StraitFleet.class.getDeclaredClasses()) {
+            for (Method m : c.getDeclaredMethods()) {
+                hidden.add(m.getName());
+            }
+        }
         hidden.retainAll(openNames);
-        due.is("private methods that bear the name of a public one", hidden.size(), 0);
+        due.is("other methods that bear the name of a public one", hidden.size(), 0);
         due.holds("the class is public and final", StraitFleet.class.getModifiers() == (Modifier.PUBLIC | Modifier.FINAL));
         due.is("constructors", StraitFleet.class.getDeclaredConstructors().length, 1);
         int constants = 0;
