@@ -41,6 +41,11 @@ final class Due {
         is(what, does ? 1 : 0, 1);
     }
 
+    /** Whether nothing was wrong till now: after one wrong answer a run tells nothing more. */
+    boolean allIsWell() {
+        return wrong == 0;
+    }
+
     void close() {
         endSentence();
         String of = sentences == 0 ? "" : " for " + sentences + " sentences";
