@@ -6,7 +6,7 @@ import java.util.TreeSet;
 
 /**
  * The document told a second time, in its own words and without care for room or speed: each answer is found by
- * trying all that can be. It shares nothing with the class, so that both would have to be wrong alike.
+ * trying all that can be. It shares no code with the class; where words are unclear, it reads them as NOTES.md says.
  */
 final class Model {
     private static final int UNKNOWN = -1, OUTSIDE = -2, STATE = -3, FULL = -4, NO = -5, NONE = -6;

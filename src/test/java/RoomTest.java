@@ -9,19 +9,18 @@ public final class RoomTest {
     private static long answers = 0;
 
     public static void main(String[] args) {
-        long ofNothing = 0;
-        long ofObject = 0;
-        long ofCalls = 0;
-        // the machine makes things of its own when code runs for the first time, so the last round counts
+        long ofObject = Long.MAX_VALUE;
+        long ofCalls = Long.MAX_VALUE;
+        // the machine makes things of its own when code runs for the first time, so the least of some rounds counts
         for (int round = 0; round < 5; round++) {
             long start = room.getCurrentThreadAllocatedBytes();
-            ofNothing = room.getCurrentThreadAllocatedBytes() - start;
+            long ofNothing = room.getCurrentThreadAllocatedBytes() - start;
             start = room.getCurrentThreadAllocatedBytes();
             StraitFleet x = new StraitFleet();
-            ofObject = room.getCurrentThreadAllocatedBytes() - start - ofNothing;
+            ofObject = Math.min(ofObject, room.getCurrentThreadAllocatedBytes() - start - ofNothing);
             start = room.getCurrentThreadAllocatedBytes();
             callAll(x);
-            ofCalls = room.getCurrentThreadAllocatedBytes() - start - ofNothing;
+            ofCalls = Math.min(ofCalls, room.getCurrentThreadAllocatedBytes() - start - ofNothing);
         }
         due.holds("an object takes " + ofObject + " bytes", ofObject > 0 && ofObject <= MOST_BYTES);
         due.is("bytes that its calls take", ofCalls, 0);
